@@ -78,6 +78,17 @@ public final class FiresTest {
         Check.due("1 and 2", 20, x.lost(3));
         Check.due("0 and 2", 30, x.lost(5));
         Check.due("1 alone", 240, x.lost(2));
+        int[] far = {40, 8, 32, 16, 24, 0};
+        for (int need = 1; need <= 6; need++) {
+            CampYears z = new CampYears();
+            for (int c = 0; c < far.length; c++) {
+                z.camp(far[c], 0, 1);
+                z.crew(c, 1);
+            }
+            z.fire(0, 0, need, 10);
+            Check.due("all go to a need of " + need, 10 * (need - 1), z.lost(63));
+            Check.due("best for a need of " + need, 10 * (need - 1), z.call(-1));
+        }
     }
 
     private static void callsByNumber() {

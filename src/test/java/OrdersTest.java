@@ -107,7 +107,9 @@ public final class OrdersTest {
         }
         Check.due("a text in the middle", 0, x.order(3, 1, 2, 2, 10));
         Check.due("places are told from the text's start on", -110, x.order(3, 1, 2, 2, 11));
-        Check.due("a text that ends too soon", -109, x.order(3, 1, 2, 2, 9));
+        for (int n = 0; n < 10; n++) {
+            Check.due("a text that ends too soon, at " + n, -100 - n, x.order(3, 1, 2, 2, n));
+        }
         Check.due("a text of no cells", -100, x.order(3, 1, 2, 14, 0));
         x.put(1, 2, 111 + 256);
         Check.due("an int is no byte", -100, x.order(3, 1, 2, 2, 10));
@@ -155,6 +157,14 @@ public final class OrdersTest {
         Check.due("orders, full", 12, x.many(3));
         Check.due("why on day 8: later ones are not given yet", 8, x.why(0, 5, 8, 0));
         Check.due("why on day 7", 7, x.why(0, 5, 7, 0));
+        Check.due("ofOrder 11", 11, x.ofOrder(11, 6));
+        Check.due("ofOrder 12 of 12", CampYears.UNKNOWN, x.ofOrder(12, 0));
+        CampYears y = Scenes.withCamps(1);
+        for (int o = 0; o < 12; o++) {
+            Scenes.order(y, 0, "o3h0-0@0-0");
+        }
+        Check.due("why of twelve, hour 0, day 0", 11, y.why(0, 0, 0, 4));
+        Check.due("word of twelve", 3, y.word(0, 0, 0, 4));
     }
 
     private static void delays() {
@@ -245,11 +255,16 @@ public final class OrdersTest {
         Scenes.order(y, 0, "o0h0-23@0-399");
         Scenes.order(y, 0, "o4h0-23@0-399");
         Scenes.order(y, 1, "o1h1-23@0-399");
-        y.delay(4, 0);
-        y.delay(0, 0);
         y.delay(4, 1);
         Check.due("quarrel: nobody", 0, y.quarrel(0, 0));
         Check.due("quarrel: 4 has not heard of the last, 1 has", (1 << 24) - 2, y.quarrel(0, 1));
+        CampYears z = Scenes.withCamps(1);
+        Scenes.order(z, 0, "o0h0-1@0-399");
+        Scenes.order(z, 1, "o4h0-0@0-399");
+        z.delay(0, 30);
+        Check.due("quarrel: 0 has heard of nothing", 0, z.quarrel(0, 29));
+        Check.due("quarrel of 0 and 4 in hour 0", 1, z.quarrel(0, 30));
+        Check.due("no quarrel any more", 0, z.quarrel(0, 31));
         Check.due("quarrel camp 1", CampYears.UNKNOWN, y.quarrel(1, 400));
         Check.due("quarrel camp -1", CampYears.UNKNOWN, y.quarrel(-1, 0));
         Check.due("quarrel day 400", CampYears.OUTSIDE, y.quarrel(0, 400));

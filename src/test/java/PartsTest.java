@@ -5,6 +5,7 @@ public final class PartsTest {
         rolls();
         kinds();
         traceWraps();
+        fullPosts();
         faultOfWhichCalls();
         howMany();
         Check.end();
@@ -40,6 +41,9 @@ public final class PartsTest {
         Check.due("tell a chief", 28, x.tell(2));
         Check.due("trace of a chief", trace(1, 2, 1, 3, 2, 1, 1), x.trace());
         Check.due("tell all days", 400, x.tell(3));
+        Check.due("tell 30", CampYears.UNKNOWN, x.tell(30));
+        Check.due("tell far away", CampYears.UNKNOWN, x.tell(Integer.MAX_VALUE));
+        Check.due("tell far below", CampYears.UNKNOWN, x.tell(Integer.MIN_VALUE));
         Check.due("trace asked for changes nothing", x.trace(), x.trace());
     }
 
@@ -55,6 +59,7 @@ public final class PartsTest {
         Check.due("roll a chief", 66, x.roll(2));
         Check.due("trace of a chief", trace(4, 4, 5), x.trace());
         Check.due("roll post 0", 0, x.roll(0));
+        Check.due("roll 30", CampYears.UNKNOWN, x.roll(30));
     }
 
     private static void kinds() {
@@ -84,6 +89,18 @@ public final class PartsTest {
             bodies[k] = 5;
         }
         Check.due("trace that wraps", trace(bodies), x.trace());
+    }
+
+    private static void fullPosts() {
+        CampYears x = Scenes.withMen(1, 1);
+        for (int p = 0; p < 30; p++) {
+            x.post(p % 3, 0, 0, p, p);
+        }
+        Check.due("tell 29", 10, x.tell(29));
+        Check.due("roll 28", 28, x.roll(28));
+        Check.due("as(29, 2)", 1, x.as(29, 2));
+        Check.due("tell 30 of 30", CampYears.UNKNOWN, x.tell(30));
+        Check.due("as(30, 0) of 30", CampYears.UNKNOWN, x.as(30, 0));
     }
 
     private static void faultOfWhichCalls() {

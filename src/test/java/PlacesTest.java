@@ -114,6 +114,13 @@ public final class PlacesTest {
         Check.due("gain of three", CampYears.LOST, x.gain(0, 1, 1, 3));
         Check.due("fault() behind these", 0, x.fault());
         Check.due("gain is no go", 0, x.spot(0, 0));
+        Scenes.write(x, 1, 0, 1, 1);
+        Check.due("gain of 1 1", CampYears.LOST, x.gain(1, 0, 0, 2));
+        for (int p = 3; p < 8; p++) {
+            x.place(0, 0, 1, true);
+        }
+        Scenes.write(x, 1, 0, 7, 8);
+        Check.due("gain of 7 8", CampYears.LOST, x.gain(1, 0, 0, 2));
         CampYears y = new CampYears();
         y.sheet(2, 2, 0);
         Check.due("gain of no camps", 0, y.gain(2, 2, 0, 0));

@@ -95,7 +95,9 @@ public final class SheetsTest {
         due(x, CampYears.LOST, 3, x.cell(0, 2, 1), "cell behind the last");
         due(x, CampYears.LOST, 3, x.cell(0, -1, 1), "cell ahead of the first");
         due(x, CampYears.LOST, 1, x.cell(1, 9, 1), "cell of nothing is no cast");
+        due(x, CampYears.LOST, 0, x.cell(4, 0, 0), "cell of sheet 4 behind a fault");
         x.lose(0);
         due(x, CampYears.LOST, 1, x.cell(0, 1, 2), "cell of what was lost");
+        due(x, CampYears.LOST, 0, x.cell(0, 1, 3), "cell of lane 3 behind a fault");
     }
 }

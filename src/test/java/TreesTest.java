@@ -41,6 +41,8 @@ public final class TreesTest {
         CampYears x = new CampYears();
         Scenes.write(x, 0, 1, table(77));
         Check.due("table to 100", 24, x.row(1, 0, 1, 0, 24));
+        Check.due("row what 2 of 24", CampYears.OUTSIDE, x.row(2, 0, 1, 0, 24));
+        Check.due("row what -1 of 24", CampYears.OUTSIDE, x.row(-1, 0, 1, 0, 24));
         x.put(0, 23, 101);
         Check.due("table with 101", CampYears.OUTSIDE, x.row(1, 0, 1, 0, 24));
         x.put(0, 23, -1);

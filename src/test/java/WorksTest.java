@@ -29,6 +29,8 @@ public final class WorksTest {
         Check.due("work, full", CampYears.FULL, x.work(0, 5, 5));
         Check.due("work, outside ahead of full", CampYears.OUTSIDE, x.work(0, 0, 5));
         Check.due("works", 8, x.many(5));
+        Check.due("ofWork of the last", 5, x.ofWork(7, 1));
+        Check.due("hands of the last", 0, x.hands(7, 0, 1));
         facts(x, 1, 1, 9999, 0, 0, 0, 0);
         Check.due("ofWork 8", CampYears.UNKNOWN, x.ofWork(8, 9));
         Check.due("ofWork -1", CampYears.UNKNOWN, x.ofWork(-1, 0));
@@ -142,6 +144,13 @@ public final class WorksTest {
             Check.due("counted of " + hands[k], counted, x.ofWork(0, 5));
         }
         Check.due("told(0, -1) is counted", counted, x.told(0, -1));
+        for (int need = 1; need <= 30; need++) {
+            CampYears y = Scenes.withCamps(1);
+            y.work(0, need, 20);
+            y.hands(0, 0, 20);
+            Check.due("week of need " + need, need, y.week());
+            Check.due("counted of need " + need, need <= 10 ? 10 : need <= 20 ? 20 : 30, y.ofWork(0, 5));
+        }
     }
 
     private static void levels() {
@@ -206,6 +215,9 @@ public final class WorksTest {
         Check.due("grew by 0, the most of all", 0, x.grew(0));
         Check.due("grew work 1", CampYears.UNKNOWN, x.grew(1));
         Check.due("grew work -1", CampYears.UNKNOWN, x.grew(-1));
+        CampYears one = withCounted(5);
+        one.level(3, 21, 20);
+        Check.due("grew by just one", 3, one.grew(0));
         CampYears y = withCounted(0);
         y.level(0, 99, 1);
         Check.due("grew of nothing", CampYears.NONE, y.grew(0));
