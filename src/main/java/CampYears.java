@@ -812,14 +812,15 @@ public final class CampYears {
 
         private void readLeftOut() {
             readSign('!');
-            do {
+            // Of one camp more than there can be, one was told or is none: that round is the last.
+            for (int told = 0; told <= MOST_CAMPS && !isFaulty() && (told == 0 || at < length); told++) {
                 int place = at;
                 int camp = readNumber(1, 0, campCount - 1);
                 if (!isFaulty() && (leftOut >> camp & 1) != 0) {
                     firstFault = place;
                 }
                 leftOut |= 1 << camp;
-            } while (!isFaulty() && at < length);
+            }
         }
 
         private void readSign(char sign) {
