@@ -1,6 +1,7 @@
 import java.util.ArrayList;
 import java.util.Arrays;
 import java.util.List;
+import java.util.Set;
 import java.util.regex.Matcher;
 import java.util.regex.Pattern;
 
@@ -34,7 +35,11 @@ final class BoundRun {
     /** What is seen of an object behind the history; kept, as many rows ask for the same. */
     private long[][] seen;
 
-    BoundRun(BoundTable.Test test) {
+    /** Of each row with a range: the call, and which of its numbers that is. */
+    private final Set<String> ranged;
+
+    BoundRun(BoundTable.Test test, Set<String> ranged) {
+        this.ranged = ranged;
         name = test.where() + " \"" + test.quote() + "\": ";
         for (String row : test.rows()) {
             play(row);
@@ -174,6 +179,8 @@ final class BoundRun {
         if (!range.find()) {
             throw new IllegalStateException(name + "no range: " + text);
         }
+        String ahead = text.substring(0, range.start());
+        ranged.add(ahead.substring(0, ahead.indexOf('(')) + " " + ahead.chars().filter(c -> c == ',').count());
         int least = (int) Call.number(range.group(1));
         int most = (int) Call.number(range.group(2));
         for (int n : new int[] {least, most}) {
