@@ -247,7 +247,9 @@ public final class OrdersTest {
         Check.due("quarrel: 1 has heard", 0, x.quarrel(0, 8));
         Check.due("quarrel: where the order leaves out", 0, x.quarrel(1, 5));
         x.delay(1, 0);
-        x.delay(3, 30);
+        x.delay(3, 3);
+        Check.due("3 has heard of 1 alone", 1, x.word(0, 8, 5, 3));
+        Check.due("1 has heard of 2", 2, x.word(0, 8, 5, 1));
         Check.due("quarrel: what a third has heard is none", 0, x.quarrel(0, 5));
         x.delay(1, 30);
         Check.due("quarrel: 1 has heard of neither yet", 0, x.quarrel(0, 5));

@@ -10,6 +10,7 @@ public final class PlacesTest {
         faultsOfGain();
         goes();
         sevenCamps();
+        sevenGo();
         Check.end();
     }
 
@@ -189,5 +190,20 @@ public final class PlacesTest {
         best(x, 70, 7, 5, 4, 3, 2, 1, 0);
         Check.due("seven go", 1, x.go());
         Check.due("seven went", 6, x.spot(6, 0));
+    }
+
+    private static void sevenGo() {
+        CampYears x = Scenes.withCamps(7);
+        for (int p = 0; p < 8; p++) {
+            x.place(10 + p, 20 + p, 100, p != 3);
+        }
+        // All rows are as far together: the first one is the best.
+        best(x, 700 - 7 * 30 - 2 * 25 + 21, 0, 1, 2, 4, 5, 6, 7);
+        Check.due("seven go far", 1, x.go());
+        int[] places = {0, 1, 2, 4, 5, 6, 7};
+        for (int c = 0; c < 7; c++) {
+            Check.due("x of camp " + c, 10 + places[c], x.spot(c, 0));
+            Check.due("y of camp " + c, 20 + places[c], x.spot(c, 1));
+        }
     }
 }

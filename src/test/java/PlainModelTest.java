@@ -1,4 +1,6 @@
+import java.util.Map;
 import java.util.Random;
+import java.util.TreeMap;
 
 /** Long runs of chance calls, each answered by CampYears and by the plain model alike. */
 public final class PlainModelTest {
@@ -6,7 +8,22 @@ public final class PlainModelTest {
     private static final int CALLS = 500;
     private static final int KINDS = 47;
 
+    /** Calls that tell of one thing: a run of such a theme makes them often, so that they meet. */
+    private static final int[][] THEMES = {
+        {}, {1, 2, 3, 4, 5, 41, 42, 43}, {6, 8, 9, 10, 11}, {1, 2, 12, 13, 14, 15},
+        {16, 17, 18, 19, 20, 21, 22, 23, 24}, {18, 25, 26, 27}, {28, 29, 30, 31}, {32, 33, 34, 35, 36},
+        {37, 38, 39, 40, 44, 45, 46}};
+    private static final int ORDERS = 2;
+
+    /** Answers that chance comes to seldom: "it was so" is told by a 0, the others by more than 0. */
+    private static final String[] MORE_THAN_0 = {"order", "over", "quarrel", "word", "why", "pay", "told", "grew",
+        "live", "forest", "call", "lost", "move", "gain", "go", "tell", "roll"};
+    private static final String[] SO_BEFORE = {"home", "level", "lose"};
+    private static final int OFTEN_ENOUGH = 100;
+    private static final Map<String, Integer> MET = new TreeMap<>();
+
     private final Random random;
+    private final int theme;
     private final CampYears years = new CampYears();
     private final PlainYears plain = new PlainYears();
     /** How likely each kind of call is in this run, so that runs differ in what they fill up. */
@@ -16,9 +33,15 @@ public final class PlainModelTest {
 
     private PlainModelTest(long seed) {
         random = new Random(seed);
+        theme = (int) (seed % THEMES.length);
         for (int k = 0; k < KINDS; k++) {
             weights[k] = random.nextInt(4) == 0 ? 1 + random.nextInt(12) : random.nextInt(2);
-            weightSum += weights[k];
+        }
+        for (int k : THEMES[theme]) {
+            weights[k] += 10;
+        }
+        for (int weight : weights) {
+            weightSum += weight;
         }
     }
 
@@ -26,14 +49,24 @@ public final class PlainModelTest {
         for (int run = 0; run < RUNS; run++) {
             new PlainModelTest(run).play(run);
         }
+        for (String call : MORE_THAN_0) {
+            wasMet(call + " > 0");
+        }
+        for (String call : SO_BEFORE) {
+            wasMet(call + " = 0");
+        }
         Check.end();
+    }
+
+    private static void wasMet(String answer) {
+        Check.holds(answer + " was met often enough", MET.getOrDefault(answer, 0) >= OFTEN_ENOUGH);
     }
 
     private void play(int run) {
         prepare(run);
         for (int n = 0; n < CALLS; n++) {
             step(pick(), run);
-            same(run, "fault()", plain.fault, years.fault());
+            sameFault(run);
             same(run, "trace()", plain.trace, years.trace());
         }
         for (int what = 0; what < 10; what++) {
@@ -63,6 +96,13 @@ public final class PlainModelTest {
 
     private static void same(int run, String call, long want, long got) {
         Check.due("run " + run + ": " + call, want, got);
+        if (want >= 0) {
+            MET.merge(call.split(" ")[0] + (want == 0 ? " = 0" : " > 0"), 1, Integer::sum);
+        }
+    }
+
+    private void sameFault(int run) {
+        same(run, "fault()", plain.fault, years.fault());
     }
 
     /** Mostly a number from a to b; else one just beside them, or far away. */
@@ -83,7 +123,7 @@ public final class PlainModelTest {
     }
 
     private int day() {
-        return random.nextBoolean() ? num(0, 399) : num(0, 30);
+        return random.nextInt(theme == ORDERS ? 8 : 2) == 0 ? num(0, 399) : num(0, 30);
     }
 
     private int cells() {
@@ -192,7 +232,7 @@ public final class PlainModelTest {
             case 6: giveOrder(run); break;
             case 7: a = one(plain.orders.size()); b = num(0, 6);
                 same(run, "ofOrder", plain.ofOrder(a, b), years.ofOrder(a, b)); break;
-            case 8: a = num(0, 4); b = num(0, 30);
+            case 8: a = num(0, 4); b = random.nextBoolean() ? num(0, 6) : num(0, 30);
                 same(run, "delay", plain.delay(a, b), years.delay(a, b)); break;
             case 9: a = num(0, 23); b = num(0, 4);
                 same(run, "word", plain.word(camp, a, day, b), years.word(camp, a, day, b)); break;
@@ -201,7 +241,7 @@ public final class PlainModelTest {
             case 11: same(run, "quarrel", plain.quarrel(camp, day), years.quarrel(camp, day)); break;
             case 12: a = num(0, 2); b = num(0, 999);
                 same(run, "rate", plain.rate(a, b), years.rate(a, b)); break;
-            case 13: b = num(1, 100); a = num(0, Math.max(0, Math.min(b, 100)));
+            case 13: b = random.nextBoolean() ? num(1, 3) : num(1, 100); a = num(0, Math.max(0, Math.min(b, 100)));
                 same(run, "home", plain.home(a, b), years.home(a, b)); break;
             case 14: a = num(1, 9999);
                 same(run, "fine", plain.fine(man, day, a), years.fine(man, day, a)); break;
@@ -222,7 +262,7 @@ public final class PlainModelTest {
             case 19: case 20: same(run, "week", plain.week(), years.week()); break;
             case 21: a = num(0, 5);
                 same(run, "ofWork", plain.ofWork(w, a), years.ofWork(w, a)); break;
-            case 22: a = num(0, 4); b = num(0, 99); c = num(1, 99);
+            case 22: a = num(0, 4); b = random.nextBoolean() ? num(0, 2) : num(0, 99); c = random.nextBoolean() ? num(1, 2) : num(1, 99);
                 same(run, "level", plain.level(a, b, c), years.level(a, b, c)); break;
             case 23: a = num(-1, 4);
                 same(run, "told", plain.told(w, a), years.told(w, a)); break;
@@ -290,6 +330,7 @@ public final class PlainModelTest {
                 same(run, "many", plain.many(a), years.many(a)); break;
             case 45: a = day(); b = cells(); c = cells();
                 same(run, "order", plain.order(a, k, lane, b, c), years.order(a, k, lane, b, c));
+                sameFault(run);
                 same(run, "gain", plain.gain(k, lane, b, c), years.gain(k, lane, b, c)); break;
             default: a = num(0, 1); b = cells(); c = cells();
                 same(run, "row", plain.row(a, k, lane, b, c), years.row(a, k, lane, b, c)); break;
